@@ -78,7 +78,9 @@ public final class LikePages {
             return false;
         }
         past.keep(state);
-        takeOut(thing);
+        if (takeOut(thing)) {
+            tree.buildAnew();
+        }
         return true;
     }
 
@@ -87,7 +89,9 @@ public final class LikePages {
             return false;
         }
         past.keep(state);
-        chooseMeasure(measure);
+        state.measure = measure;
+        fars.follow(state);
+        tree.buildAnew();
         return true;
     }
 
@@ -96,7 +100,8 @@ public final class LikePages {
             return false;
         }
         past.keep(state);
-        chooseCap(cap);
+        state.cap = cap;
+        tree.buildAnew();
         return true;
     }
 
@@ -135,7 +140,9 @@ public final class LikePages {
             return false;
         }
         past.keep(state);
-        takeOut(thing);
+        if (takeOut(thing)) {
+            tree.buildAnew();
+        }
         bringIn(thing, word);
         return true;
     }
@@ -472,25 +479,15 @@ public final class LikePages {
         return thing;
     }
 
-    private void takeOut(int thing) {
+    /** Whether the tree is to be built anew, which is left to the caller: calls must not go too deep. */
+    private boolean takeOut(int thing) {
         state.forget(thing);
         fars.follow(state);
         if (tree.hasCentre(thing)) {
-            tree.buildAnew();
-        } else {
-            tree.takeFromLeaf(thing);
+            return true;
         }
-    }
-
-    private void chooseMeasure(int measure) {
-        state.measure = measure;
-        fars.follow(state);
-        tree.buildAnew();
-    }
-
-    private void chooseCap(int cap) {
-        state.cap = cap;
-        tree.buildAnew();
+        tree.takeFromLeaf(thing);
+        return false;
     }
 
     private void act(int kind, int first, int second) {
@@ -500,24 +497,27 @@ public final class LikePages {
                 break;
             case DO_DROP:
                 int thing = state.numberOf(first);
-                if (thing != NONE) {
-                    takeOut(thing);
+                if (thing != NONE && takeOut(thing)) {
+                    tree.buildAnew();
                 }
                 replies.addNumberOrNo(thing);
                 break;
             case DO_NEAR:
-                replySearch(isHowMany(second), Search.NEAREST, first, second);
+                replies.addNumbers(isHowMany(second) ? search.run(Search.NEAREST, first, NONE, second) : NONE, search.found);
                 break;
             case DO_WITHIN:
-                replySearch(isFar(second), Search.WITHIN, first, second);
+                replies.addNumbers(isFar(second) ? search.run(Search.WITHIN, first, NONE, second) : NONE, search.found);
                 break;
             case DO_MEASURE:
-                chooseMeasure(first);
+                state.measure = first;
+                fars.follow(state);
+                tree.buildAnew();
                 replies.addOk(true);
                 break;
             case DO_CAP:
                 if (isCap(first)) {
-                    chooseCap(first);
+                    state.cap = first;
+                    tree.buildAnew();
                 }
                 replies.addOk(isCap(first));
                 break;
@@ -530,15 +530,6 @@ public final class LikePages {
             default:
                 break;
         }
-    }
-
-    private void replySearch(boolean can, int sort, int word, int number) {
-        if (!can) {
-            replies.addOk(false);
-            return;
-        }
-        search.run(sort, word, NONE, number);
-        replies.addNumbers(search.found, search.count);
     }
 
     /** The bits of a float that is 0 or well inside the ordinary floats; each step here is exact. */
@@ -1033,17 +1024,14 @@ public final class LikePages {
             part(page, state.at(secondPage));
         }
 
-        /** The greater reach, if entries i and j of a page were its centres. */
+        /** The greater reach, if entries i and j of a page were its centres; a thing is always 0 from itself. */
         private int weigh(Page page, int i, int j) {
-            firstReach = page.reach[i];
-            secondReach = page.reach[j];
+            firstReach = 0;
+            secondReach = 0;
             for (int k = 0; k < page.count; k++) {
                 int toI = fars.of(page.thing[i], page.thing[k]);
                 int toJ = fars.of(page.thing[j], page.thing[k]);
                 toSecond[k] = k == j || (k != i && toI > toJ);
-                if (k == i || k == j) {
-                    continue;
-                }
                 int together = page.reach[k] + (toSecond[k] ? toJ : toI);
                 if (toSecond[k]) {
                     secondReach = together > secondReach ? together : secondReach;
@@ -1305,8 +1293,8 @@ public final class LikePages {
             return i >= 0 && i < count ? found[i] : NONE;
         }
 
-        /** From a thing or, where that is NONE, from a word; the number is how far or how many. */
-        void run(int sort, int word, int thing, int number) {
+        /** From a thing or, where that is NONE, from a word; the number is how far or how many: how many are found. */
+        int run(int sort, int word, int thing, int number) {
             fromWord = word;
             fromThing = thing;
             farthestFirst = sort == FARTHEST;
@@ -1333,6 +1321,7 @@ public final class LikePages {
                 looked++;
                 goInto(page);
             }
+            return count;
         }
 
         private boolean isBeyond(int rank) {
@@ -1689,20 +1678,14 @@ public final class LikePages {
     }
 
     /**
-     * The states ahead of the latest steps, and the image with the steps that it had. A kept state never
-     * changes, so steps and image may share it; one that neither holds is written over.
+     * The states ahead of the latest steps, and the image with the steps that it had. A state that is held as a
+     * step never changes, so both may share it; one that neither holds any more is written over.
      */
     private static final class Past {
         private final ArrayList<State> kept = new ArrayList<State>();
         private final ArrayList<State> steps = new ArrayList<State>();
         private final ArrayList<State> imageSteps = new ArrayList<State>();
-        private State image;
-
-        Past() {
-            image = new State();
-            image.inImage = true;
-            kept.add(image);
-        }
+        private final State image = new State();
 
         int countSteps() {
             return steps.size();
@@ -1730,7 +1713,7 @@ public final class LikePages {
         }
 
         void setImage(State now) {
-            image.inImage = false;
+            image.copyFrom(now);
             for (int n = 0; n < imageSteps.size(); n++) {
                 imageSteps.get(n).inImage = false;
             }
@@ -1739,9 +1722,6 @@ public final class LikePages {
                 steps.get(n).inImage = true;
                 imageSteps.add(steps.get(n));
             }
-            image = freeState();
-            image.copyFrom(now);
-            image.inImage = true;
         }
 
         void goBack(State now) {
@@ -1999,7 +1979,11 @@ public final class LikePages {
             addByte(ok ? 'k' : 'o');
         }
 
-        void addNumbers(int[] numbers, int many) {
+        /** How many of the numbers there are: NONE, if they could not be asked for. */
+        void addNumbers(int many, int[] numbers) {
+            if (many == NONE) {
+                addOk(false);
+            }
             for (int n = 0; n < many && n < numbers.length; n++) {
                 if (n > 0) {
                     addByte(',');

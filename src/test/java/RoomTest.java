@@ -1,0 +1,56 @@
+import java.lang.management.ManagementFactory;
+import java.util.Random;
+
+/**
+ * What a run of 512 calls makes. The room has 600,000 objects and 7.3 million fields and elements; an object
+ * takes 16 bytes at the least and a field or element four (but for bytes and booleans, of which there are few), so
+ * 8,000,000 bytes are safe for both.
+ */
+public final class RoomTest {
+    private static final long MOST_BYTES = 8_000_000;
+
+    public static void main(String[] args) {
+        com.sun.management.ThreadMXBean bean = (com.sun.management.ThreadMXBean) ManagementFactory.getThreadMXBean();
+        long most = 0;
+        for (int seed = 0; seed < 400; seed++) {
+            long before = bean.getThreadAllocatedBytes(Thread.currentThread().getId());
+            run(new Random(seed));
+            most = Math.max(most, bean.getThreadAllocatedBytes(Thread.currentThread().getId()) - before);
+        }
+        System.out.println("a run makes " + most + " bytes at the most");
+        if (most > MOST_BYTES) {
+            System.exit(1);
+        }
+    }
+
+    /** Pages of two and words alike make the deepest trees; images keep the most states. */
+    private static void run(Random random) {
+        LikePages x = new LikePages();
+        x.cap(2);
+        x.measure(random.nextInt(4));
+        int letters = 2 + random.nextInt(7);
+        int length = 2 + random.nextInt(5);
+        for (int n = 0; n < 510; n++) {
+            int kind = random.nextInt(20);
+            if (kind == 0) {
+                x.image();
+            } else if (kind == 1) {
+                x.undo();
+            } else if (kind < 6) {
+                x.drop(random.nextInt(40));
+            } else if (kind == 6) {
+                x.near(word(random, letters, length), 1 + random.nextInt(40), 0);
+            } else {
+                x.put(word(random, letters, length));
+            }
+        }
+    }
+
+    private static int word(Random random, int letters, int length) {
+        int word = 0;
+        for (int n = 1 + random.nextInt(length); n > 0; n--) {
+            word = word * 9 + 1 + random.nextInt(letters);
+        }
+        return word;
+    }
+}
