@@ -210,6 +210,16 @@ final class BoundsOfChanges extends Bounds {
         due("reach of 0", x.entry(0, 0, 1), 2);
     }
 
+    static void promise02_put_ofThoseThatReachTheLeastFar() {
+        LikePages x = evenReaches();
+        // 5 from 2, above its reach by 1, and 9 from 0: the reach of 2 is 5 then.
+        x.put(w("he"));
+        due("reach of 2", x.entry(0, 1, 1), 5);
+        // Place 5 is 1 from 0, less than its reach by 1, and 3 from 2, less than its reach by 2.
+        due("put", x.put(w("e")), 5);
+        due("leaf", x.leafOf(5), 1);
+    }
+
     static void promise02_put_ofLikeOnesAboveReachTheFirst() {
         LikePages x = evenReaches();
         // 3 from 0 and 5 from 2: above both reaches by 1.
@@ -282,6 +292,29 @@ final class BoundsOfChanges extends Bounds {
         due("0 keeps its reach", x.entry(1, 0, 1), 0);
         due("1 keeps its reach", x.entry(1, 1, 1), 1);
         due("one entry in the page of 2", x.page(4, 1), 1);
+    }
+
+    static void promise02_put_splitOwnEntryCountsItsReach() {
+        // Places 1, 6, 2: 0 with reach 1 over 0 and 2, and 1. Place 4 is above both reaches by 2: it goes to 0, whose page
+        // is split into 0 with 2 (reach 1) and 3. The root's 0, 3, 1 are split by 0 and 3: 0 is alone, with its reach; 1
+        // is 2 from 3.
+        LikePages x = plane(2, "a f b d");
+        due("i", x.entry(0, 0, 0), 0);
+        due("its reach", x.entry(0, 0, 1), 1);
+        due("j", x.entry(0, 1, 0), 3);
+        due("its reach", x.entry(0, 1, 1), 2);
+        due("0 alone", x.page(1, 1), 1);
+    }
+
+    static void promise02_put_entriesBehindTheNewOneKeepTheirReach() {
+        // Places 1, 8, 7, 2: 0 with 3, 1 with 2, both with reach 1. Places 3 and 4 go to 0, whose page is split by 0 (with 3)
+        // and 4 (with 5).
+        LikePages x = plane(3, "a h g b c d");
+        due("entries", x.page(0, 1), 3);
+        due("the last", x.entry(0, 2, 0), 1);
+        due("its reach", x.entry(0, 2, 1), 1);
+        due("its page", x.entry(0, 2, 3), 3);
+        due("with both", x.page(3, 1), 2);
     }
 
     static void promise02_put_newEntryComesRightBehind() {
@@ -380,6 +413,39 @@ final class BoundsOfChanges extends Bounds {
         due("second", x.entry(0, 1, 0), 2);
     }
 
+    /**
+     * Cap 3, places 3, 1, 2, 4, 5, 6, 8, 7. The first four: 0 (reach 1) with 2, 3, and 1. Place 5 splits 0's page into 0
+     * with 2 and 3 with 4; 8 splits that of 3, then with 4 and 5, into 4 with 3, 5 and 6; the root's 0, 4, 6, 1 are split
+     * by 0 (with 1) and 4 (with 6). Place 7 goes to 4 and splits its page into 3 with 4 and 5 with 7.
+     */
+    private static LikePages centreInTheRootAlone() {
+        return plane(3, "c a b d e f h g");
+    }
+
+    static void promise03_drop_centreOfTheRootAlone() {
+        LikePages x = centreInTheRootAlone();
+        due("pages", x.is(1), 8);
+        due("4 is a centre in the root", x.entry(0, 1, 0), 4);
+        int low = x.entry(0, 1, 3);
+        int[] centres = {3, 5, 6};
+        for (int k = 0; k < 3; k++) {
+            due("not below it: " + k, x.entry(low, k, 0), centres[k]);
+        }
+        due("drop", x.drop(4), true);
+        // Built anew: 0 with 2 and 3, 5 with 6 and 7, and 1.
+        due("pages", x.is(1), 4);
+        due("levels", x.is(3), 2);
+        due("5 with 6 and 7", x.page(2, 1), 3);
+    }
+
+    static void promise03_drop_noCentreThoughOthersOfItsPageAre() {
+        LikePages x = centreInTheRootAlone();
+        // 7 is no centre anywhere.
+        due("drop", x.drop(7), true);
+        due("pages", x.is(1), 8);
+        due("levels", x.is(3), 3);
+    }
+
     static void promise03_drop_toldFromAndToItAreGone() {
         LikePages x = of("a b c");
         x.tell(0, 1, 5);
@@ -473,6 +539,24 @@ final class BoundsOfChanges extends Bounds {
         due("cap again", x.cap(2), true);
         due("built", x.is(1), 3);
         due("a step", x.steps(), 8);
+    }
+
+    static void promise05_cap_allInTheRootAgain() {
+        LikePages x = deep();
+        due("levels", x.is(3), 3);
+        for (int i = 0; i < 6; i++) {
+            x.page(i, 4);
+        }
+        x.cap(4);
+        due("pages", x.is(1), 1);
+        due("no centre", x.page(0, 2), NONE);
+        due("no reach above", x.page(0, 3), NONE);
+        due("no page above", x.page(0, 4), 0);
+        for (int k = 0; k < 4; k++) {
+            due("way", x.entry(0, k, 2), 0);
+        }
+        due("none is spared", x.within(w("hhhhhh"), 0, NONE), 0);
+        dueCost(x, 4, 0, 1, 0);
     }
 
     static void promise05_cap_ofNone() {
@@ -714,6 +798,17 @@ final class BoundsOfChanges extends Bounds {
         due("spell of the first", x.spell(0, w("h")), true);
         due("thing", x.thing(w("h")), 0);
         due("leaf", x.leafOf(0) != NONE, true);
+    }
+
+    static void promise09_spell_farIsOfTheNewWord() {
+        LikePages x = forty();
+        // aa and eh are 2 apart, hhhhhh and eh 5.
+        x.spell(0, w("hhhhhh"));
+        due("to the last", x.far(0, 39), 5);
+        due("from the last", x.far(39, 0), 5);
+        x.spell(39, w("hhhhh"));
+        due("to the last", x.far(0, 39), 1);
+        due("from the last", x.far(39, 0), 1);
     }
 
     static void promise09_spell_theOnlyOne() {

@@ -30,6 +30,22 @@ final class BoundsOfGoingBack extends Bounds {
         due("back", x.back(), 0);
     }
 
+    static void promise47_image_withItsOwnStepsAlone() {
+        LikePages x = of("a b c");
+        x.image();
+        x.undo();
+        x.undo();
+        due("image", x.image(), 1);
+        due("back", x.back(), 1);
+        due("steps", x.steps(), 1);
+        x.put(w("d"));
+        due("image", x.image(), 2);
+        x.back();
+        due("steps", x.steps(), 2);
+        due("undo", x.undo(), 1);
+        due("d is gone", x.thing(w("d")), NONE);
+    }
+
     static void promise47_image_isNotChangedLater() {
         LikePages x = deep();
         x.tell(0, 3, 50);
@@ -135,6 +151,26 @@ final class BoundsOfGoingBack extends Bounds {
         x.back();
         due("reach", x.entry(0, 0, 1), 2);
         due("tight again", x.tight(), 2);
+    }
+
+    static void promise48_back_centresToldOnesAndWaysToo() {
+        LikePages x = deep();
+        x.tell(2, 3, 4);
+        x.tell(0, 3, 3);
+        x.image();
+        x.drop(2);
+        x.cap(6);
+        x.back();
+        int[] centres = {-1, 1, 0, 1, 2, 2};
+        for (int i = 0; i < 6; i++) {
+            due("centre of " + i, x.page(i, 2), centres[i]);
+        }
+        due("way", x.entry(1, 0, 2), 2);
+        due("told", x.is(6), 2);
+        x.measure(1);
+        due("told", x.far(2, 3), 4);
+        due("told", x.far(0, 3), 3);
+        due("by the measure", x.far(3, 0), 1);
     }
 
     static void promise48_back_leavesSheetRepliesFaultAndCost() {

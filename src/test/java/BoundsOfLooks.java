@@ -42,6 +42,12 @@ final class BoundsOfLooks extends Bounds {
         due("just both", plane(2, "a b c").is(8), 1);
         // Places 1, 3, 4: the same, but 2 from 0.
         due("more than both", plane(2, "a c d").is(8), 0);
+        // Places 1, 2, 3, 4: 0 and 2, both with reach 1, are 2 apart; ccc is 6 from 2.
+        LikePages x = plane(3, "a b c d");
+        due("centres", x.entry(0, 0, 0) * 10 + x.entry(0, 1, 0), 2);
+        x.put(w("ccc"));
+        due("reach", x.entry(0, 1, 1), 6);
+        due("less than both", x.is(8), 1);
     }
 
     static void promise17_is_overlapFromTheOneAhead() {

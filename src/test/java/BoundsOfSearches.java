@@ -294,6 +294,45 @@ final class BoundsOfSearches extends Bounds {
         dueCost(x, 4, 0, 5, 1);
     }
 
+    static void promise28_near_ofLikeBoundsNotThePagesOrder() {
+        // Places 1, 6, 2, 4: root 0 (reach 1) over page 1, 3 (reach 2) over page 3; page 1: 0 over 0 and 2; page 3: 3 and 1,
+        // each alone. From place 2 pages 1 and 3 wait with 0, and page 1 lets that of 0 and 2 wait with 0, too. Page 3 came
+        // ahead of that, so there is no limit yet, and 1 is measured. Then 0 with 1, 2 with 0; the others wait with 2 and 4.
+        LikePages x = plane(2, "a f b d");
+        due("nearest", x.near(w("b"), 1, 0), 2);
+        dueCost(x, 4, 0, 4, 1);
+    }
+
+    static void promise28_near_innerEntriesAtTheLimit() {
+        // Places 7, 4, 5, 6, 3: root 0 (reach 1) over page 1, 1 (reach 1) over page 3; page 1: 0 (reach 1) over 0 and 3; page
+        // 3: 1 (reach 1) over 1 and 4, 2 over 2. From place 5, k 2: page 3 has 0, and below it 1 with 1, 4 with 2, then 2 with
+        // 0: the limit is 1, just what page 1 waits with. There 0 is 2 apart, just reach and limit, and its page waits with
+        // 1, just the limit: in it 0 is spared, 3 is 1 apart, and is as far as 1.
+        LikePages x = plane(2, "g d e f c");
+        due("first", x.near(w("e"), 2, 0), 2);
+        dueCost(x, 5, 1, 6, 2);
+        due("second", x.near(w("e"), 2, 1), 1);
+    }
+
+    static void promise28_near_limitIsOfTheKthFound() {
+        // Places 1, 7, 5, 4: root 0 over page 1, 2 (reach 2) over page 3; page 3: 1, and 2 (reach 1) over 2 and 3. From place
+        // 3, k 2: page 3 has 0; 1 waits with 4, 2 with 1. 2 is found with 2 and 3 with 1; page 1 waits with 2, just the limit,
+        // and 0 in it, 2 apart, is found with 2, and has a lesser number than 2. That of 1 is above the limit.
+        LikePages x = plane(2, "a g e d");
+        due("first", x.near(w("c"), 2, 0), 3);
+        dueCost(x, 4, 0, 5, 2);
+        due("second", x.near(w("c"), 2, 1), 0);
+    }
+
+    static void promise28_near_whatWaitedBeforeIsGone() {
+        // From place 5 two pages wait yet when the search ends. Then from place 1, r 3: 1 with reach 2 is 2 away, 2 is 7 away:
+        // pages 1, 2 and 3 alone, and 0, 1, 3 are found.
+        LikePages x = deep();
+        due("nearest", x.near(w("e"), 1, 0), 3);
+        due("within", x.within(w("a"), 3, NONE), 3);
+        dueCost(x, 4, 0, 4, 3);
+    }
+
     // ---- 29
 
     static void promise29_beside_noThing() {
@@ -432,6 +471,35 @@ final class BoundsOfSearches extends Bounds {
         LikePages x = plane(2, "g c a");
         due("farthest", x.farthest(w("d"), 1, 0), 0);
         dueCost(x, 3, 1, 3, 1);
+    }
+
+    static void promise30_farthest_ofLikeBoundsNotThePagesOrder() {
+        // Places 2, 6, 5, 8: root 0 over page 1, 1 (reach 2) over page 3; page 3: 1 (reach 1) over 1 and 2, 3 over 3. From
+        // place 5 pages 1 and 3 wait with 3, and page 1 lets that of 0 wait with 3, too. Page 3 came ahead of that: 3 is
+        // measured, and waits with 3, 1 with 2. 0 is found with 3, then 3, which is as far; that of 1 is below the limit.
+        LikePages x = plane(2, "b f e h");
+        due("farthest", x.farthest(w("e"), 1, 0), 0);
+        dueCost(x, 3, 0, 5, 1);
+    }
+
+    static void promise30_farthest_innerEntriesAtTheLimit() {
+        // Places 3, 1, 6, 4, 8: root 0 (reach 2) over page 1, 2 (reach 2) over page 4; page 1: 0 (reach 1) over 0 and 3, 1 over
+        // 1; page 4: 2 (reach 2) over 2 and 4. From place 4, k 2: page 4 has 4; 2 is found with 2 and 4 with 4. Page 1 has 3,
+        // not below the limit 2; there 0 could be 1 and 1 away, just the limit, and waits with 2; 1 is 3 away, and waits with
+        // 3. It is found, and what 0 waits with is below the limit then.
+        LikePages x = plane(2, "c a f d h");
+        due("first", x.farthest(w("d"), 2, 0), 4);
+        dueCost(x, 4, 0, 5, 2);
+        due("second", x.farthest(w("d"), 2, 1), 1);
+    }
+
+    static void promise30_farthest_innerPagesWaitWithJustTheLimit() {
+        // Places 1, 7, 5, 4 as above. From place 3, k 2: page 3 has 4; 1 waits with 4, 2 with 3. 1 is found with 4, 2 with 2;
+        // 3 could be 3 away, and is measured. Page 1 has 2, just the limit, and so has that of 0, who has a lesser number.
+        LikePages x = plane(2, "a g e d");
+        due("first", x.farthest(w("c"), 2, 0), 1);
+        dueCost(x, 4, 0, 6, 2);
+        due("second", x.farthest(w("c"), 2, 1), 0);
     }
 
     static void promise30_farthest_rootIsGoneIntoFromAnyWord() {

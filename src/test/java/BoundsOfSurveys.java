@@ -378,6 +378,35 @@ final class BoundsOfSurveys extends Bounds {
         due("told to it", x.lonely(), 3);
     }
 
+    static void promise39_lonely_leastOfNought() {
+        LikePages x = of("a b c");
+        x.drop(0);
+        x.tell(1, 2, 0);
+        x.tell(2, 1, 0);
+        due("both have 0", x.lonely(), 1);
+    }
+
+    /** What is 1 from a thing is told to be 2 from it. */
+    private static void setApart(LikePages x, int thing) {
+        for (int other = 0; other < 40; other++) {
+            if (x.far(thing, other) == 1) {
+                x.tell(thing, other, 2);
+            }
+        }
+    }
+
+    static void promise39_lonely_firstAndLastOfForty() {
+        LikePages x = forty();
+        due("all have 1", x.lonely(), 0);
+        setApart(x, 39);
+        due("39 has 2", x.lonely(), 39);
+        x = forty();
+        setApart(x, 0);
+        due("0 has 2", x.lonely(), 0);
+        x.tell(0, 39, 0);
+        due("0 has 0", x.lonely(), 1);
+    }
+
     // ---- 40
 
     static void promise40_pivot_noneSuch() {
@@ -444,6 +473,19 @@ final class BoundsOfSurveys extends Bounds {
         // Sums: 197, 100, 99. From 2: to 0 is 98, to 1 is 1.
         due("first", x.pivot(0), 2);
         due("second", x.pivot(1), 0);
+        due("third", x.pivot(2), 1);
+    }
+
+    static void promise40_pivot_ninetyNineIsMoreThanNinetyEight() {
+        LikePages x = of("a b c");
+        x.tell(0, 1, 98);
+        x.tell(0, 2, 99);
+        x.tell(1, 0, 99);
+        x.tell(1, 2, 98);
+        x.tell(2, 0, 99);
+        x.tell(2, 1, 98);
+        due("first", x.pivot(0), 0);
+        due("second", x.pivot(1), 2);
         due("third", x.pivot(2), 1);
     }
 
@@ -523,6 +565,16 @@ final class BoundsOfSurveys extends Bounds {
         due("told to it", x.middle(), 1);
     }
 
+    static void promise42_middle_firstAndLastOfForty() {
+        // Each has 11 that are 1 away and 28 that are 2 away.
+        LikePages x = forty();
+        due("all alike", x.middle(), 0);
+        x.tell(39, 38, 0);
+        due("less by 1", x.middle(), 39);
+        x.tell(5, 39, 0);
+        due("less by 2", x.middle(), 5);
+    }
+
     // ---- 43
 
     static void promise43_groups_rTooSmallAndTooLarge() {
@@ -560,6 +612,16 @@ final class BoundsOfSurveys extends Bounds {
         due("of 3", x.groups(2, 3), 2);
         due("r 3", x.groups(3, NONE), 1);
         due("and so on", x.groups(3, 0), 4);
+    }
+
+    static void promise43_groups_askedAgainWithAnotherR() {
+        // Places 1, 3, 2: 0 is joined with 2, and 1 with 2.
+        LikePages x = plane(4, "a c b");
+        due("r 1", x.groups(1, 0), 3);
+        for (int thing = 0; thing < 3; thing++) {
+            due("r 0", x.groups(0, thing), 1);
+        }
+        due("r 0", x.groups(0, NONE), 3);
     }
 
     static void promise43_groups_rNoughtAndNinetyNine() {

@@ -294,6 +294,48 @@ final class BoundsOfTexts extends Bounds {
         due("bytes", x.reply(NONE), 179);
     }
 
+    static void promise13_perform_dropOfACentreIsBuilt() {
+        LikePages x = deep();
+        dueReplies(x, "drop a", 1, "0");
+        due("pages", x.is(1), 3);
+        x = deep();
+        dueReplies(x, "drop d", 1, "3");
+        due("no centre", x.is(1), 6);
+    }
+
+    static void promise13_perform_measureAndCapAreBuilt() {
+        LikePages x = deep();
+        x.drop(3);
+        dueReplies(x, "cap 2", 1, "ok");
+        due("the same cap", x.is(1), 3);
+        x = deep();
+        x.drop(3);
+        dueReplies(x, "cap 1", 1, "no");
+        due("not built", x.is(1), 6);
+        dueReplies(x, "measure sum", 1, "ok");
+        due("the same measure", x.is(1), 3);
+        dueReplies(x, "measure head", 1, "ok");
+        due("far by it", x.far(0, 1), 7);
+    }
+
+    static void promise13_perform_numbersOfTwoDigits() {
+        LikePages x = forty();
+        dueReplies(x, "size;drop bc;drop cb;drop ed;put bc;put cb;put ed;size", 8, "40;10;17;35;10;17;35;40");
+        dueReplies(x, "near bb 1;near bd 1;near ce 1;near eh 1;drop aa;drop bb;size", 7, "9;11;20;39;0;9;38");
+    }
+
+    static void promise13_perform_commandsByTheirWholeNames() {
+        LikePages x = new LikePages();
+        String[] texts = {"but a", "pet a", "pus a", "crop a", "drow a", "dear a 1", "neat a 1", "dithin a 1", "withim a 1",
+            "feasure sum", "measurf sum", "tap 2", "cat 2", "car a a", "fat a a", "gize", "sizf"};
+        for (String text : texts) {
+            dueFault(x, text, 0);
+        }
+        for (String name : new String[] {"adit", "edif", "glace", "placf", "fum", "sun", "dead", "heaf"}) {
+            dueFault(x, "measure " + name, 8);
+        }
+    }
+
     static void promise13_perform_laterCommandsSeeEarlierOnes() {
         LikePages x = new LikePages();
         dueReplies(x, "put a;put b;drop a;put c;near c 3;measure head;far a b", 7, "0;1;0;0;0,1;ok;7");
@@ -567,6 +609,55 @@ final class BoundsOfTexts extends Bounds {
             case 9: type(x, "drop a;measure head;put bbb"); x.perform(); break;
             default: type(x, "size"); x.perform(); break;
         }
+    }
+
+    static void promise16_undo_centresAndWaysToo() {
+        LikePages x = deep();
+        x.cap(6);
+        x.undo();
+        int[] centres = {-1, 1, 0, 1, 2, 2};
+        for (int i = 0; i < 6; i++) {
+            due("centre of " + i, x.page(i, 2), centres[i]);
+        }
+        due("way", x.entry(1, 0, 2), 2);
+        due("way", x.entry(3, 1, 2), 1);
+    }
+
+    static void promise16_undo_toldOnesEachInItsPlace() {
+        LikePages x = of("a b c d");
+        x.tell(0, 1, 11);
+        x.tell(2, 3, 22);
+        x.tell(3, 1, 33);
+        x.drop(0);
+        due("told", x.is(6), 2);
+        x.undo();
+        due("told", x.is(6), 3);
+        due("0 to 1", x.far(0, 1), 11);
+        due("2 to 3", x.far(2, 3), 22);
+        due("3 to 1", x.far(3, 1), 33);
+        due("3 to 2", x.far(3, 2), 1);
+        x.wipe();
+        x.tell(1, 0, 44);
+        x.undo();
+        x.undo();
+        due("0 to 1", x.far(0, 1), 11);
+        due("1 to 0", x.far(1, 0), 1);
+        due("in its place", x.tell(0, 1, 12), 3);
+    }
+
+    static void promise16_undo_firstAndLastOfForty() {
+        LikePages x = forty();
+        x.spell(0, w("g"));
+        x.spell(39, w("h"));
+        x.undo();
+        due("the last", x.word(39), w("eh"));
+        due("its far", x.far(39, 31), 1);
+        x.undo();
+        due("the first", x.word(0), w("aa"));
+        due("its far", x.far(0, 39), 2);
+        x.undo();
+        due("the last is not put", x.word(39), NONE);
+        due("things", x.is(0), 39);
     }
 
     static void promise16_undo_leavesTheImage() {
