@@ -446,6 +446,35 @@ final class BoundsOfChanges extends Bounds {
         due("levels", x.is(3), 3);
     }
 
+    /** No page but a root that is a leaf is without entries, and no inner root has one alone. */
+    private static void dueNoneEmpty(LikePages x) {
+        int pages = x.is(1);
+        due("entries in the root", x.page(0, 1) >= (pages > 1 ? 2 : 0), true);
+        int entries = 0;
+        for (int i = 0; i < pages; i++) {
+            int its = x.page(i, 1);
+            due("entries in page " + i, its > 0 || pages == 1, true);
+            entries += its;
+        }
+        due("entries: things, and pages but the root", entries, x.is(0) + pages - 1);
+    }
+
+    static void promise03_drop_noPageIsLeftWithoutEntries() {
+        // A page holds its own centre, and a centre that is dropped has the tree built anew: from both ends, one by one.
+        for (int thing = 0; thing < 8; thing++) {
+            LikePages x = centreInTheRootAlone();
+            x.drop(thing);
+            dueNoneEmpty(x);
+            x.drop(7 - thing);
+            dueNoneEmpty(x);
+        }
+        LikePages x = deep();
+        for (int thing = 3; thing >= 0; thing--) {
+            x.drop(thing);
+            dueNoneEmpty(x);
+        }
+    }
+
     static void promise03_drop_toldFromAndToItAreGone() {
         LikePages x = of("a b c");
         x.tell(0, 1, 5);
