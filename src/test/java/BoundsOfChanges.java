@@ -712,6 +712,33 @@ final class BoundsOfChanges extends Bounds {
         due("not built", x.is(1), 6);
     }
 
+    static void promise06_tell_putByFarFromTheCentre() {
+        // Place 7 is 3 from 0, which is above its reach of 1, and 1 from 2, whose reach is 4.
+        LikePages x = unlikeReaches();
+        x.put(w("g"));
+        due("leaf of 4", x.leafOf(4), 2);
+        x.tell(4, 0, 1);
+        due("told to the centre: leaf of 4", x.leafOf(4), 2);
+        // Both centres reach it now, and both with 1: the first.
+        x.wipe();
+        x.tell(0, 4, 1);
+        due("told from the centre: leaf of 4", x.leafOf(4), 1);
+    }
+
+    static void promise06_tell_reachIsFarFromTheCentre() {
+        LikePages x = unlikeReaches();
+        x.put(w("g"));
+        x.tell(4, 2, 50);
+        due("told to the centre: leaf of 4", x.leafOf(4), 2);
+        due("told to the centre: reach", x.entry(0, 1, 1), 4);
+        // It is above the reach of 2 by 1, above that of 0 by 2.
+        x.wipe();
+        x.tell(2, 4, 5);
+        due("told from the centre: leaf of 4", x.leafOf(4), 2);
+        due("told from the centre: reach", x.entry(0, 1, 1), 5);
+        due("reach of the other", x.entry(0, 0, 1), 1);
+    }
+
     // ---- 7
 
     static void promise07_wipe_none() {

@@ -123,6 +123,24 @@ final class BoundsOfSearches extends Bounds {
         due("by the measure", x.within(w("a"), 1, NONE), 2);
     }
 
+    /**
+     * The line, with 50 told from 1 to 0: as centres 0 and 1 would reach 5, 0 and 2 reach 2, 1 and 2 reach 7 (0 is 50
+     * from 1, 7 from 2), so the tree is as it was, and the way of 1 is the 2 from its centre 0.
+     */
+    private static LikePages lineToldBack() {
+        LikePages x = line();
+        x.tell(1, 0, 50);
+        due("centres", x.entry(0, 0, 0) * 10 + x.entry(0, 1, 0), 2);
+        return x;
+    }
+
+    static void promise26_within_wayIsFromTheCentre() {
+        LikePages x = lineToldBack();
+        // Place 3 is 2 from 0: into its page; 0 itself is spared (2 and way 0), 1 is not (2 and way 2). 2 is 5 from it.
+        due("within 0 of place 3", x.within(w("c"), 0, 0), 1);
+        dueCost(x, 3, 1, 2, 1);
+    }
+
     // ---- 27
 
     static void promise27_around_noThing() {
@@ -333,6 +351,20 @@ final class BoundsOfSearches extends Bounds {
         dueCost(x, 4, 0, 4, 3);
     }
 
+    static void promise28_near_wayIsFromTheCentre() {
+        LikePages x = lineToldBack();
+        // Pages wait with bounds 0 and 5. In the first one 0 makes the limit 2; 1 is not spared, and makes it 0.
+        due("near place 3", x.near(w("c"), 1, 0), 1);
+        dueCost(x, 3, 0, 2, 1);
+    }
+
+    static void promise28_near_isNotTold() {
+        LikePages x = of("a b c");
+        x.tell(0, 1, 99);
+        due("of the word, by the measure", x.near(w("a"), 2, 1), 1);
+        due("of the thing, as told", x.beside(0, 2, 1), 2);
+    }
+
     // ---- 29
 
     static void promise29_beside_noThing() {
@@ -510,6 +542,22 @@ final class BoundsOfSearches extends Bounds {
         dueCost(x, 1, 0, 1, 1);
     }
 
+    static void promise30_farthest_wayIsFromTheCentre() {
+        // Places 1, 2, 3, 8, with 0 told from 1 to 2: as centres 1 and 3 reach 1, all other twos 2 or more.
+        LikePages x = plane(3, "a b c h");
+        x.tell(1, 2, 0);
+        due("centres", x.entry(0, 0, 0) * 10 + x.entry(0, 1, 0), 13);
+        // From place 8 the pages' bounds are 7 and 0. In the first one 0 makes the limit 7; 1 and 2 are 6 and way 0.
+        due("farthest from place 8", x.farthest(w("h"), 1, 0), 0);
+        dueCost(x, 3, 2, 2, 1);
+    }
+
+    static void promise30_farthest_isNotTold() {
+        LikePages x = of("a b c");
+        x.tell(0, 2, 99);
+        due("of like ones by the measure the least", x.farthest(w("a"), 1, 0), 1);
+    }
+
     // ---- 31
 
     static void promise31_cost_aheadOfAny() {
@@ -560,6 +608,23 @@ final class BoundsOfSearches extends Bounds {
         LikePages x = deep();
         due("no such place", x.near(w("e"), 1, 39), NONE);
         dueCost(x, 4, 0, 3, 1);
+        for (int i : new int[] {LEAST, -2, 4, 40, GREATEST}) {
+            x = deep();
+            due("within, " + i, x.within(w("a"), 99, i), NONE);
+            due("asked", x.cost(3), 4);
+            x = deep();
+            due("around, " + i, x.around(0, 99, i), NONE);
+            due("asked", x.cost(3), 4);
+            x = deep();
+            due("near, " + i, x.near(w("a"), 40, i), NONE);
+            due("asked", x.cost(3), 4);
+            x = deep();
+            due("beside, " + i, x.beside(0, 40, i), NONE);
+            due("asked", x.cost(3), 4);
+            x = deep();
+            due("farthest, " + i, x.farthest(w("a"), 40, i), NONE);
+            due("asked", x.cost(3), 4);
+        }
     }
 
     static void promise31_cost_eachThingIsMeasuredOnce() {

@@ -304,6 +304,7 @@ final class BoundsOfSurveys extends Bounds {
         LikePages x = three();
         x.tell(2, 0, 0);
         due("told from the greater", x.couple(1, NONE), 2);
+        due("1 and 2 come next, not 0 and 2", x.couple(1, 1), 42);
         x.tell(0, 2, 1);
         due("told from the lesser", x.couple(1, NONE), 3);
         due("by a, then b", x.couple(1, 1), 2);

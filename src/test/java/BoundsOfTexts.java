@@ -267,6 +267,10 @@ final class BoundsOfTexts extends Bounds {
         LikePages x = of("a b");
         x.tell(0, 1, 99);
         dueReplies(x, "near a 2;within a 1", 2, "0,1;0,1");
+        // Were it of the thing, 2 would be nearer than 1.
+        x = of("a b c");
+        x.tell(0, 1, 99);
+        dueReplies(x, "near a 2", 1, "0,1");
     }
 
     static void promise13_perform_measureByItsFourNames() {
