@@ -67,6 +67,16 @@ final class BoundsOfLooks extends Bounds {
         due("overlaps", x.is(8), 0);
     }
 
+    static void promise17_is_overlapByBothReachesTogether() {
+        // As in unlikeReaches, 0 reaches 1 and 2 reaches 4, but 2 is 5 from 0: above either reach, not above both.
+        LikePages x = plane(3, "c b h hd");
+        due("reaches", x.entry(0, 0, 1) * 10 + x.entry(0, 1, 1), 14);
+        due("centres 5 apart", x.is(8), 1);
+        x = plane(3, "b a h hd");
+        due("reaches", x.entry(0, 0, 1) * 10 + x.entry(0, 1, 1), 14);
+        due("centres 6 apart", x.is(8), 0);
+    }
+
     // ---- 18
 
     static void promise18_word_forOthers() {

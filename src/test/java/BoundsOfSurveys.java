@@ -500,6 +500,16 @@ final class BoundsOfSurveys extends Bounds {
         due("no more", x.pivot(40), NONE);
     }
 
+    static void promise40_pivot_leastNotTogether() {
+        // Places 4, 1, 8, 6, 7. The middle is 3; 1 is 5 from it. Of the rest 0 is 2 and 3 from both, 2 is 2 and 7, 4 is 1
+        // and 6: 0 and 2 are like by the least, though 2 is more together.
+        LikePages x = plane(4, "d a h f g");
+        int[] pivots = {3, 1, 0, 2, 4};
+        for (int i = 0; i < 5; i++) {
+            due("pivot " + i, x.pivot(i), pivots[i]);
+        }
+    }
+
     // ---- 41
 
     static void promise41_letter_noThing() {
